@@ -20,7 +20,7 @@ public final class StayingGuests {
     private final Text text = new Text();
     private final Dinner played = new Dinner();
     private final Readings readings = new Readings();
-    private final Hints hints = new Hints();
+    private final SoftRows softRows = new SoftRows();
     private final Tables tables = new Tables();
     private final Staff staff = new Staff();
     private int trail;
@@ -202,7 +202,7 @@ public final class StayingGuests {
         if (house.rooms[k].knows) {
             return STATE;
         }
-        return i < 0 ? hints.fewest(house, k) : hints.signOfRow(house, k, i);
+        return i < 0 ? softRows.fewest(house, k) : softRows.signOfRow(house, k, i);
     }
 
     public int just(int k, int n, int much) {
@@ -212,7 +212,7 @@ public final class StayingGuests {
         if (!within(n, 0, MOST_IN_ROW) || !within(much, 0, MOST_TOGETHER)) {
             return OUTSIDE;
         }
-        return hints.ways(house, k, n, much);
+        return softRows.thatWeigh(house, k, n, much);
     }
 
     public int apart(int k) {
@@ -869,7 +869,7 @@ public final class StayingGuests {
     }
 
     /** Rows of signs for one guest, none of which shocks him. */
-    private static final class Hints {
+    private static final class SoftRows {
         private final int[] ways = new int[MOST_TOGETHER + 1];
 
         int fewest(House house, int k) {
@@ -915,7 +915,7 @@ public final class StayingGuests {
             return NONE;
         }
 
-        int ways(House house, int k, int n, int much) {
+        int thatWeigh(House house, int k, int n, int much) {
             for (int sum = 0; sum <= much; sum++) {
                 ways[sum] = sum == 0 ? 1 : 0;
             }

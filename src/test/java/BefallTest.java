@@ -19,6 +19,7 @@ public final class BefallTest {
         dinnerByTable();
         dinnerRefused();
         dinnerFaults();
+        thoseGoneCountNoMore();
         check.end();
     }
 
@@ -294,5 +295,35 @@ public final class BefallTest {
         check.due("fault", x.fault(), 0);
         Check.row(x, 1, 0, 99);
         check.due("STATE ahead of pairs", x.dinner(1, 2, 0, 1, 0), STATE);
+    }
+
+    /** Of one who has gone nothing is left: not with him who comes in his place, not in a sum, not in a set. */
+    private static void thoseGoneCountNoMore() {
+        StayingGuests x = Check.made("h19;m890;m891;m712");
+        x.give(1, 2);
+        x.give(0, 2);
+        check.due("SHOCKED", x.ofGuest(2, 6), 1);
+        check.due("KNOWS", x.ofGuest(2, 5), 1);
+        check.due("leave(2)", x.leave(2), 2);
+        check.due("who is SHOCKED", Check.dinner(x, 2), 0);
+        check.due("who KNOWS", Check.dinner(x, 0), 0);
+        check.due("arrive", x.arrive(1, 3, 9, 2), 2);
+        int[] due = {1, 3, 9, 2, 0, 0, 0};
+        for (int what = 0; what <= 6; what++) {
+            check.due("arrived, " + what, x.ofGuest(2, what), due[what]);
+        }
+        check.due("who is SHOCKED", Check.dinner(x, 2), 0);
+        x.word(0, 4);
+        x.give(0, 2);
+        x.leave(2);
+        check.due("GATHERED together", x.nights(1), 0);
+        check.due("best is of those who are there", x.best(-2), 0);
+        StayingGuests y = Check.made("h9;m890;m820;m730;m640;m550;m910");
+        check.due("leave(5) of six", y.leave(5), 5);
+        check.due("best is of those who are there", y.best(-2), 0);
+        check.due("arrive", y.arrive(2, 1, 2, 3), 5);
+        check.due("leave(0) of six", y.leave(0), 5);
+        check.due("who was 5", y.ofGuest(4, 0), 2);
+        check.due("who was 1", y.ofGuest(0, 2), 2);
     }
 }

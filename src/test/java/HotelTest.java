@@ -133,6 +133,11 @@ public final class HotelTest {
         check.due("GATHERED anew", x.ofGuest(0, 4), 0);
         check.due("SHOCKED anew", x.ofGuest(1, 6), 0);
         check.due("TRACE is not the hotel's", x.trace(), 1);
+        x.give(1, 1);
+        check.due("a shorter one", Check.hotel(x, "h7;m320;c450"), 2);
+        check.due("SIGNS anew", x.many(1), 1);
+        check.due("HINT anew", x.hint(0), 7);
+        check.due("SHOCKED anew", x.ofGuest(1, 6), 0);
     }
 
     private static void refusedChangesNothing() {
