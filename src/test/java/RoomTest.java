@@ -2,22 +2,26 @@ import java.lang.management.ManagementFactory;
 
 /** All calls of one run live in one room: an object makes its rows as it is made, and no call makes any. */
 public final class RoomTest {
-    private static final int ROUNDS = 2000;
+    /** A round is some 130 calls, and an object answers 512 as the document says. */
+    private static final int OBJECTS = 700, ROUNDS = 3;
     private static final long MOST_BYTES = 200_000;
     private static final Check check = new Check("RoomTest");
 
     public static void main(String[] args) {
         var threads = (com.sun.management.ThreadMXBean) ManagementFactory.getThreadMXBean();
-        StayingGuests x = new StayingGuests();
-        round(x);
+        StayingGuests[] made = new StayingGuests[OBJECTS];
+        for (int i = 0; i < OBJECTS; i++) {
+            made[i] = new StayingGuests();
+        }
+        long first = round(new StayingGuests());
         long ahead = threads.getCurrentThreadAllocatedBytes();
         long sum = 0;
-        for (int i = 0; i < ROUNDS; i++) {
-            sum += round(x);
+        for (int i = 0; i < OBJECTS * ROUNDS; i++) {
+            sum += round(made[i % OBJECTS]);
         }
         long taken = threads.getCurrentThreadAllocatedBytes() - ahead;
-        check.due("bytes taken by " + ROUNDS + " rounds of calls, " + taken, taken > MOST_BYTES ? 1 : 0, 0);
-        check.due("the rounds are all alike", sum, ROUNDS * round(x));
+        check.due("bytes taken by " + OBJECTS * ROUNDS + " rounds of calls, " + taken, taken > MOST_BYTES ? 1 : 0, 0);
+        check.due("the rounds are all alike", sum, OBJECTS * ROUNDS * first);
         check.end();
     }
 
