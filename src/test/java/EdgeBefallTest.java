@@ -23,6 +23,7 @@ public final class EdgeBefallTest {
         tableLeastNextOfLater();
         nightsDownToNothing();
         nightsOfThoseWhoKnow();
+        nightsOfThoseWhoAreThere();
         nightsAtTheEdges();
         nightsRefused();
         arriveIsTheLast();
@@ -79,8 +80,9 @@ public final class EdgeBefallTest {
 
     /** "SHOCKED (for good)". */
     private static void shockedForGood() {
-        Run run = hotel("for good", "h921;m231;m231").due(NONE, "give", 0, 0).shocked(1, 0).due(0, "give", 2, 0).shocked(1, 0);
-        run.go("nights", 30).shocked(1, 0).due(NONE, "give", 0, 0).shocked(1, 0).go("seat", 0, 5).shocked(1, 0);
+        Run run = hotel("for good", "h921;m231;m231").due(NONE, "give", 0, 0).shocked(1, 0).due(0, "give", 2, 0);
+        run.shocked(1, 0).go("nights", 30).shocked(1, 0).due(NONE, "give", 0, 0).shocked(1, 0);
+        run.go("seat", 0, 5).shocked(1, 0);
         run.go("word", 0, 1).due(0, "give", 0, 0).shocked(1, 0).due(1, "give", 1, 0).knows(1, 0).shocked(1, 0);
         run.go("leave", 1).shocked(1).go("arrive", 0, 1, 1, 1).shocked(1, 0);
     }
@@ -205,10 +207,20 @@ public final class EdgeBefallTest {
     }
 
     private static void nightsOfThoseWhoKnow() {
-        Run run = hotel("those who know", "h59;m531;m592;m493").due(1, "give", 0, 0).due(0, "give", 0, 1).due(NONE, "give", 1, 2);
+        Run run = hotel("those who know", "h59;m531;m592;m493").due(1, "give", 0, 0).due(0, "give", 0, 1);
+        run.due(NONE, "give", 1, 2);
         run.due(3, "nights", 2).gathered(5, 3, 0).knows(1, 0, 0).shocked(0, 0, 1).due(1, "many", 3);
         Run all = hotel("all know", "h9;m910").due(1, "give", 0, 0).due(0, "nights", 30).gathered(9).knows(1);
         all.due(30, "many", 2);
+    }
+
+    /** Of six, of whom the last has gathered something, and of five, when he has gone. */
+    private static void nightsOfThoseWhoAreThere() {
+        String six = "h9;m990;m991;m992;m993;m994;c995";
+        Run run = hotel("six", six).go("give", 0, 5).gathered(0, 0, 0, 0, 0, 8).due(7, "nights", 1);
+        run.gathered(0, 0, 0, 0, 0, 7).due(5, "leave", 5).due(0, "nights", 1);
+        run.due(5, "arrive", 1, 9, 9, 5).due(0, "nights", 1).gathered(0, 0, 0, 0, 0, 0);
+        hotel("the first goes", six).go("give", 0, 5).due(5, "leave", 0).due(6, "nights", 2).gathered(0, 0, 0, 0, 6);
     }
 
     private static void nightsAtTheEdges() {

@@ -27,6 +27,7 @@ public final class EdgeDawnTest {
         apartNoTwoOfOneKind();
         apartNoTwoShocked();
         apartOfThoseWhoKnow();
+        apartOfThoseWhoAreThere();
         apartFirstOfSeveral();
         apartWhereverTheySit();
         apartAtTheEdges();
@@ -37,6 +38,7 @@ public final class EdgeDawnTest {
         bestFirstOfSeveral();
         bestEachAlone();
         bestOfThoseWhoKnow();
+        bestOfThoseWhoAreThere();
         bestAtTheEdges();
         check.end();
     }
@@ -298,14 +300,21 @@ public final class EdgeDawnTest {
         apart(run.due(1, "give", 1, 0), 1, NONE, 0);
     }
 
+    private static void apartOfThoseWhoAreThere() {
+        Run run = hotel("h9;m990;m990;m990");
+        apart(run.due(2, "leave", 2), 2, 0, 1);
+        apart(run.due(2, "arrive", 1, 9, 9, 0), 2, 0, 1, 0);
+        apart(run.due(2, "leave", 0), 1, 0, 0);
+    }
+
     /** "The fewest TABLES; of several rows the first": where the least free table for each in turn won't do. */
     private static void apartFirstOfSeveral() {
         Run run = hotel("h9;c990;b990;c110;b110").due(NONE, "give", 0, 2).due(NONE, "give", 0, 3);
         apart(run, 2, 0, 1, 1, 0);
         Run none = hotel("h9;c990;b990;c110;b110").due(NONE, "give", 0, 2);
         apart(none, 2, 0, 0, 1, 1);
-        Run later = hotel("h9;m990;c990;b110;m110;c110").due(NONE, "give", 0, 2).due(NONE, "give", 0, 3).due(NONE, "give", 0, 4);
-        apart(later, 3, 0, 0, 0, 1, 2);
+        Run later = hotel("h9;m990;c990;b110;m110;c110").due(NONE, "give", 0, 2).due(NONE, "give", 0, 3);
+        apart(later.due(NONE, "give", 0, 4), 3, 0, 0, 0, 1, 2);
         Run six = hotel("h9;m990;c990;m110;c110;b990;b990").due(NONE, "give", 0, 2).due(NONE, "give", 0, 3);
         apart(six, 2, 0, 1, 1, 0, 0, 1);
     }
@@ -413,7 +422,15 @@ public final class EdgeDawnTest {
         best(run.due(1, "give", 0, 0), 1, 1, NONE, 0, NONE);
         best(run.due(1, "give", 0, 1), 0, 0, NONE, NONE, NONE);
         best(hotel("h9;m910").go("give", 0, 0), 0, 0, NONE);
-        best(hotel("h1;m110").go("arrive", 0, 1, 1, 1).go("leave", 0), 1, 1, 0);
+    }
+
+    private static void bestOfThoseWhoAreThere() {
+        Run run = hotel("h1;m990;m110");
+        best(run, 1, 1, NONE, 0);
+        best(run.due(1, "leave", 1), 0, 0, NONE);
+        best(run.due(1, "arrive", 0, 1, 1, 1), 1, 1, NONE, 0);
+        best(run.due(1, "leave", 0), 1, 1, 0);
+        best(run.hotel("h1;m990"), 0, 0, NONE);
     }
 
     /** "(k -2), (k -1), the SIGN of GUEST k (0 .. 5; NONE: none, there is no such GUEST). OUTSIDE; STATE." */

@@ -116,8 +116,8 @@ public final class EdgeDinnerTest {
 
     private static void shockedInIt() {
         Run run = hotel("shocked in it", "h567;m590").dinner(0, 2, 0, 0).dinner(1, 2, 0, 1).dinner(0, 10, 0, 1);
-        run.dinner(5, 10, 0, 0, 0, 1).dinner(1, 2, 0, 1, 9, 10).dinner(1, 0, 0, 1, 0, 0, 0, 0).dinner(1, 2, 0, 1, 0, 0, 0, 0);
-        run.dinner(NONE, 1, 0, 1, 0, 1).dinner(0, 3, 0, 1).dinner(0, 4, 0, 1).shocked(0);
+        run.dinner(5, 10, 0, 0, 0, 1).dinner(1, 2, 0, 1, 9, 10).dinner(1, 0, 0, 1, 0, 0, 0, 0);
+        run.dinner(1, 2, 0, 1, 0, 0, 0, 0).dinner(NONE, 1, 0, 1, 0, 1).dinner(0, 3, 0, 1).dinner(0, 4, 0, 1).shocked(0);
         run.go("give", 1, 0).dinner(1, 2).dinner(1, 2, 0, 0);
     }
 
@@ -148,8 +148,8 @@ public final class EdgeDinnerTest {
 
     /** "(nothing is changed)". */
     private static void nothingIsChanged() {
-        int[][] rows = {{}, {0, 0, 1, 3, 2, 10}, {0, 0, 0, 0, 0, 0}, {0, 1, 1, 1, 2, 1}, {9, 10}, {0, 25, 1, 25, 2, 25, 3, 25},
-            {3, 0}, {0, 5}, {0, 0, 4, 0}};
+        int[][] rows = {{}, {0, 0, 1, 3, 2, 10}, {0, 0, 0, 0, 0, 0}, {0, 1, 1, 1, 2, 1}, {9, 10},
+            {0, 25, 1, 25, 2, 25, 3, 25}, {3, 0}, {0, 5}, {0, 0, 4, 0}};
         for (int[] pairs : rows) {
             for (int what : ALL_WHATS) {
                 Run run = Scene.LIVELY.made(check, Arrays.toString(pairs) + ", what " + what).row(1, INTS, pairs);
@@ -231,7 +231,8 @@ public final class EdgeDinnerTest {
         for (int guests = 1; guests <= 6; guests++) {
             Run run = hotel(guests + " guests", "h3;m990;m991;m992;m993;m994;m995".substring(0, 2 + 5 * guests));
             for (int k = 0; k <= 5; k++) {
-                run.dinner(k < guests ? 0 : NONE, 10 + k).dinner(k == guests - 1 ? 3 : k < guests ? 0 : NONE, 10 + k, guests - 1, 0);
+                run.dinner(k < guests ? 0 : NONE, 10 + k);
+                run.dinner(k == guests - 1 ? 3 : k < guests ? 0 : NONE, 10 + k, guests - 1, 0);
             }
             run.due(OUTSIDE, "dinner", 1, INTS, 0, 0, 9).due(OUTSIDE, "dinner", 1, INTS, 0, 0, 16);
         }
@@ -330,7 +331,8 @@ public final class EdgeDinnerTest {
     private static void pairByPair() {
         Run run = hotel("pair by pair", "h1;m190").dinner(OUTSIDE, 1, 1, 5).dinner(OUTSIDE, 1, -1, 9);
         run.dinner(UNKNOWN, 1, 1, 0, 0, 5).dinner(OUTSIDE, 1, 0, 5, 1, 0).dinner(UNKNOWN, 1, 1, 20, 10, 10);
-        run.dinner(OUTSIDE, 1, 10, 10, 1, 20).dinner(UNKNOWN, 1, 0, 0, 0, 0, 1, 25, 0, 26).dinner(OUTSIDE, 1, 0, 0, 0, 26, 1, 25);
+        run.dinner(OUTSIDE, 1, 10, 10, 1, 20).dinner(UNKNOWN, 1, 0, 0, 0, 0, 1, 25, 0, 26);
+        run.dinner(OUTSIDE, 1, 0, 0, 0, 26, 1, 25);
     }
 
     private static void refusedAheadOfFirstWrong() {

@@ -109,7 +109,8 @@ public final class EdgeReadingsTest {
 
     private static void backTheLast() {
         Run run = hotel("h5678;m990").due(0, "reading", 0, 0, 0).due(1, "reading", 1, 0, 0).due(2, "reading", 2, 0, 0);
-        run.due(3, "reading", 3, 0, 0).due(0b11_0000_0000, "bearings", 0).due(3, "back", 1).due(0b11_1000_0000, "bearings", 0);
+        run.due(3, "reading", 3, 0, 0).due(0b11_0000_0000, "bearings", 0);
+        run.due(3, "back", 1).due(0b11_1000_0000, "bearings", 0);
         run.due(1, "back", 2).due(0b11_1110_0000, "bearings", 0).due(0, "back", 1).due(ALL_DIGITS, "bearings", 0);
     }
 
@@ -263,8 +264,9 @@ public final class EdgeReadingsTest {
     }
 
     private static void setsByWhatIsNow() {
-        Run run = hotel("h5;m350").go("reading", 0, 0, 1).due(0b11110, "bearings", 0).go("word", 0, 3).due(0b110, "bearings", 0);
-        run.due(0, "kinds", 0).due(0b11_1111_0000, "hintings", 0).go("word", 0, 4).due(0b001, "kinds", 0);
+        Run run = hotel("h5;m350").go("reading", 0, 0, 1).due(0b11110, "bearings", 0).go("word", 0, 3);
+        run.due(0b110, "bearings", 0).due(0, "kinds", 0).due(0b11_1111_0000, "hintings", 0);
+        run.go("word", 0, 4).due(0b001, "kinds", 0);
         run.go("seat", 0, 5).go("nights", 3).go("arrive", 0, 9, 9, 0).due(0b1110, "bearings", 0).due(1, "many", 4);
     }
 
@@ -296,8 +298,9 @@ public final class EdgeReadingsTest {
         hotel("h3456;m590").due(3, "odds", 0, 0).due(4, "odds", 0, 1);
         // What weighs 0 shocks nobody; whether he knows, or is shocked, and what was read is aside.
         hotel("h19;c190").due(1, "odds", 0, 0).due(2, "odds", 0, 1);
-        Run run = hotel("h13;m111").go("reading", 0, 0, 1).due(NONE, "give", 1, 0).due(1, "odds", 0, 0).due(2, "odds", 0, 1);
-        run.due(1, "give", 0, 0).due(1, "odds", 0, 0).due(2, "odds", 0, 1).go("word", 0, 2).due(0, "odds", 0, 0);
+        Run run = hotel("h13;m111").go("reading", 0, 0, 1).due(NONE, "give", 1, 0).due(1, "odds", 0, 0);
+        run.due(2, "odds", 0, 1).due(1, "give", 0, 0).due(1, "odds", 0, 0).due(2, "odds", 0, 1);
+        run.go("word", 0, 2).due(0, "odds", 0, 0);
     }
 
     /** "(which 0 the upper, 1 the lower number). LOST: UNKNOWN; OUTSIDE." */

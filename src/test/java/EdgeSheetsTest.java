@@ -70,8 +70,8 @@ public final class EdgeSheetsTest {
     private static void sheetIsNew() {
         Run run = run("new row").row(1, BYTES, 5, 6, 7).row(2, BYTES, 8, 9).due(1, "sheet", 1, BYTES, 3);
         run.due(0, "cell", 1, 0, BYTES).due(0, "cell", 1, 1, BYTES).due(0, "cell", 1, 2, BYTES).due(8, "cell", 2, 0, BYTES);
-        run.row(1, BYTES, 5, 6, 7).due(1, "sheet", 1, INTS, 2).due(0, "cell", 1, 0, INTS).due(LOST, "cell", 1, 2, INTS).fault(3);
-        run.due(LOST, "cell", 1, 0, BYTES).fault(2).due(1, "put", 1, 1, 1 << 20).due(1, "sheet", 1, SHORTS, 4);
+        run.row(1, BYTES, 5, 6, 7).due(1, "sheet", 1, INTS, 2).due(0, "cell", 1, 0, INTS).due(LOST, "cell", 1, 2, INTS);
+        run.fault(3).due(LOST, "cell", 1, 0, BYTES).fault(2).due(1, "put", 1, 1, 1 << 20).due(1, "sheet", 1, SHORTS, 4);
         run.due(0, "cell", 1, 1, SHORTS).due(0, "cell", 1, 3, SHORTS).due(LOST, "cell", 1, 4, SHORTS);
         // What a longer row had does not come back.
         run.row(3, INTS, 1, 2, 3, 4).due(1, "sheet", 3, INTS, 1).due(1, "sheet", 3, INTS, 4).due(0, "cell", 3, 3, INTS);
@@ -150,7 +150,8 @@ public final class EdgeSheetsTest {
     private static void putFirstAndLast() {
         Run run = run("first and last").due(1, "sheet", 2, SHORTS, 5).due(1, "put", 2, 0, 7).due(1, "put", 2, 4, 9).fault(0);
         run.due(INDEX, "put", 2, 5, 1).fault(3).due(INDEX, "put", 2, -1, 1).fault(3);
-        run.due(7, "cell", 2, 0, SHORTS).due(0, "cell", 2, 1, SHORTS).due(0, "cell", 2, 3, SHORTS).due(9, "cell", 2, 4, SHORTS);
+        run.due(7, "cell", 2, 0, SHORTS).due(0, "cell", 2, 1, SHORTS).due(0, "cell", 2, 3, SHORTS);
+        run.due(9, "cell", 2, 4, SHORTS);
     }
 
     /** "UNKNOWN; NULL; INDEX." */
@@ -282,8 +283,9 @@ public final class EdgeSheetsTest {
                 Scene.LIVELY.idle(check, same ? 0 : CAST, same ? 0 : 2, "copy", k, 0, other, 0, 0);
             }
         }
-        int[][] wrong = {{-1, 0, 1}, {0, -1, 1}, {0, 0, -1}, {-1, -1, -1}, {6, 0, 1}, {0, 6, 1}, {7, 0, 0}, {0, 7, 0}, {0, 0, 7},
-            {1, 0, 6}, {0, 1, 6}, {5, 0, 2}, {0, 5, 2}, {Run.MAX, 0, 1}, {0, Run.MAX, 1}, {1, 1, Run.MAX}, {0, 0, Run.MAX},
+        int[][] wrong = {{-1, 0, 1}, {0, -1, 1}, {0, 0, -1}, {-1, -1, -1}, {6, 0, 1}, {0, 6, 1}, {7, 0, 0}, {0, 7, 0},
+            {0, 0, 7}, {1, 0, 6}, {0, 1, 6}, {5, 0, 2}, {0, 5, 2}, {Run.MAX, 0, 1}, {0, Run.MAX, 1},
+            {1, 1, Run.MAX}, {0, 0, Run.MAX},
             {Run.MIN, 0, 1}, {0, Run.MIN, 1}, {0, 0, Run.MIN}, {Run.MIN, 0, Run.MIN}, {Run.MAX, Run.MAX, Run.MAX}};
         for (int[] w : wrong) {
             Scene.LIVELY.idle(check, INDEX, 3, "copy", 1, w[0], 1, w[1], w[2]);
@@ -334,8 +336,9 @@ public final class EdgeSheetsTest {
 
     /** Only telling and bowing leave a trace; a new hotel takes none away. */
     private static void traceAlone() {
-        Run run = run("trace alone").hotel("h1;m950;c950").go("tell", 0).due(1, "trace").due(1, "trace").hotel("h1;m950;c950");
-        run.due(1, "trace").go("as", 0, 0).go("as", 1, 1).go("give", 0, 0).go("ofGuest", 0, 0).go("weighs", 0, 1);
+        Run run = run("trace alone").hotel("h1;m950;c950").go("tell", 0).due(1, "trace").due(1, "trace");
+        run.hotel("h1;m950;c950").due(1, "trace").go("as", 0, 0).go("as", 1, 1).go("give", 0, 0);
+        run.go("ofGuest", 0, 0).go("weighs", 0, 1);
         run.go("leave", 1).go("arrive", 2, 1, 1, 1).go("kinds", 0).go("apart", 0).go("best", 0).due(1, "trace");
         run.go("tell", 5).go("bow", 5).due(1, "trace");
     }
@@ -397,13 +400,14 @@ public final class EdgeSheetsTest {
 
     /** "The latest call that names one": others leave it as it was, whether they are refused or not. */
     private static void faultBehindCallsThatNameNone() {
-        Object[][] calls = {{"ofGuest", 0, 0}, {"ofGuest", 9, 0}, {"hint", 0}, {"hint", 9}, {"word", 0, 5}, {"word", 0, 0},
-            {"weighs", 0, 0}, {"weighs", 9, 0}, {"seat", 0, 0}, {"seat", 0, 6}, {"give", 0, 0}, {"give", 1, 0}, {"give", 0, 3},
-            {"nights", 1}, {"nights", 0}, {"arrive", 0, 1, 1, 0}, {"arrive", 3, 1, 1, 0}, {"leave", 0}, {"leave", 9},
-            {"softly", 0, 0}, {"softly", 3, 0}, {"just", 0, 1, 1}, {"just", 0, 7, 1}, {"apart", 0}, {"apart", 6}, {"best", 0},
-            {"best", 6}, {"reading", 0, 0, 0}, {"reading", 0, 0, 2}, {"back", 1}, {"back", 9}, {"bearings", 0}, {"bearings", 9},
-            {"kinds", 0}, {"kinds", 9}, {"hintings", 0}, {"hintings", 9}, {"odds", 0, 0}, {"odds", 0, 2}, {"lose", 0},
-            {"lose", 3}, {"lose", 4}, {"tell", 0}, {"tell", 9}, {"bow", 0}, {"bow", 9}, {"trace"}, {"many", 0}, {"many", 5},
+        Object[][] calls = {{"ofGuest", 0, 0}, {"ofGuest", 9, 0}, {"hint", 0}, {"hint", 9}, {"word", 0, 5},
+            {"word", 0, 0}, {"weighs", 0, 0}, {"weighs", 9, 0}, {"seat", 0, 0}, {"seat", 0, 6}, {"give", 0, 0},
+            {"give", 1, 0}, {"give", 0, 3}, {"nights", 1}, {"nights", 0}, {"arrive", 0, 1, 1, 0},
+            {"arrive", 3, 1, 1, 0}, {"leave", 0}, {"leave", 9}, {"softly", 0, 0}, {"softly", 3, 0}, {"just", 0, 1, 1},
+            {"just", 0, 7, 1}, {"apart", 0}, {"apart", 6}, {"best", 0}, {"best", 6}, {"reading", 0, 0, 0},
+            {"reading", 0, 0, 2}, {"back", 1}, {"back", 9}, {"bearings", 0}, {"bearings", 9}, {"kinds", 0},
+            {"kinds", 9}, {"hintings", 0}, {"hintings", 9}, {"odds", 0, 0}, {"odds", 0, 2}, {"lose", 0}, {"lose", 3},
+            {"lose", 4}, {"tell", 0}, {"tell", 9}, {"bow", 0}, {"bow", 9}, {"trace"}, {"many", 0}, {"many", 5},
             {"fault"}};
         for (Object[] call : calls) {
             made(call, STAYS);
@@ -416,7 +420,8 @@ public final class EdgeSheetsTest {
         for (int i = 0; i < args.length; i++) {
             args[i] = (Integer) call[i + 1];
         }
-        Scene.LIVELY.made(check, "fault behind " + Arrays.toString(call)).go((String) call[0], args).fault(due).fault(due);
+        String title = "fault behind " + Arrays.toString(call);
+        Scene.LIVELY.made(check, title).go((String) call[0], args).fault(due).fault(due);
     }
 
     // ---- promise 33
