@@ -17,8 +17,10 @@ public final class LanguageTest {
     private static final Path DOCUMENT = Path.of("../shared/DOC.md");
     private static final Check check = new Check("LanguageTest");
 
-    public static void main(String[] args) throws IOException {
-        face(Files.readString(DOCUMENT));
+    public static void main(String[] args) throws IOException, IllegalAccessException {
+        String document = Files.readString(DOCUMENT);
+        face(document);
+        constants(document);
         String code = withoutCommentsAndTexts(Files.readString(PROGRAM));
         words(code);
         members();
@@ -31,9 +33,14 @@ public final class LanguageTest {
         check.due(what, found ? 1 : 0, 0);
     }
 
-    private static void face(String document) {
+    /** The part of the document that is Java: the public face. */
+    private static String faceOf(String document) {
         int start = document.indexOf("```java");
-        String block = document.substring(start, document.indexOf("```", start + 3));
+        return document.substring(start, document.indexOf("```", start + 3));
+    }
+
+    private static void face(String document) {
+        String block = faceOf(document);
         Set<String> due = new TreeSet<>();
         Matcher m = Pattern.compile("public (int|long) (\\w+)\\(([^)]*)\\);").matcher(block);
         while (m.find()) {
@@ -52,6 +59,31 @@ public final class LanguageTest {
             System.out.println("due " + due + "\ngot " + got);
         }
         none("the face differs", !due.equals(got));
+    }
+
+    /** The constants with their types and values, and no other field that can be seen. */
+    private static void constants(String document) throws IllegalAccessException {
+        Set<String> due = new TreeSet<>();
+        Matcher row = Pattern.compile("public static final (int|long) ([^;]*);").matcher(faceOf(document));
+        while (row.find()) {
+            for (String one : row.group(2).split(", ")) {
+                due.add(row.group(1) + " " + one.replace("Long.MIN_VALUE", String.valueOf(Long.MIN_VALUE)));
+            }
+        }
+        Set<String> got = new TreeSet<>();
+        for (Field field : StayingGuests.class.getDeclaredFields()) {
+            if (!Modifier.isPrivate(field.getModifiers()) && !field.isSynthetic()) {
+                none(field + " is not static", !Modifier.isStatic(field.getModifiers()));
+                got.add(field.getType() + " " + field.getName() + " = " + field.get(null));
+            }
+        }
+        check.due("how many constants the face has", due.size(), 6);
+        if (!due.equals(got)) {
+            System.out.println("due " + due + "\ngot " + got);
+        }
+        none("the constants differ", !due.equals(got));
+        none("it is a kind of another class", StayingGuests.class.getSuperclass() != Object.class);
+        check.due("interfaces of it", StayingGuests.class.getInterfaces().length, 0);
     }
 
     private static void words(String code) {
